@@ -944,7 +944,7 @@ public final class TetherSky {
         static final int NOT = -100;
         static final int AND = -101;
         static final int OR = -102;
-        // 7 rules within one another, in each of them at most 5 parts that wait, and one more
+        // 6 rules within one another, in each of them at most 5 parts that wait, and one more
         private static final int MOST_WAITING = 40;
 
         final int[] steps = new int[LONGEST_TEXT];

@@ -135,6 +135,13 @@ public final class SkyTest {
         push("day", 2);
         push("size", 5);
         push("not not not not not not 8", 1);
+        push("0 or 1 and 0<2+3*(0 or 1 and 0<2+3*(0 or 1 and 0<2+3*(0 or 1 and 0<2+3*(0 or 1 and 9<2+3*(4)))))", 1);
+        push("8+2*(3-1*(9-2*(5-1*(0 or 1 and 7=4+3*(1)))))", 12);
+        StringBuilder longest = new StringBuilder("1");
+        while (longest.length() < 650) {
+            longest.append("+0");
+        }
+        push(longest + "+6*5", 31);
     }
 
     private static void push(String rule, int due) {

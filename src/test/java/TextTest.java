@@ -280,6 +280,11 @@ public final class TextTest {
         Check.faulty("push 1 or;", 1, 9);
         Check.faulty("push 1 or or;", 3, 10);
         Check.faulty("push 1", 1, 6);
+        Check.faulty("push a;", 3, 5);
+        Check.faulty("push z;", 3, 5);
+        Check.faulty("push `;", 1, 5);
+        Check.faulty("push {;", 1, 5);
+        Check.faulty("push 1:", 1, 6);
     }
 
     private static void nesting() {
