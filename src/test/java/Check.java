@@ -24,6 +24,13 @@ final class Check {
         same(what, got ? 1 : 0, due ? 1 : 0);
     }
 
+    static void sameRow(String what, long[] got, long[] due) {
+        same(what + ", how much is told", got.length, due.length);
+        for (int i = 0; i < got.length && i < due.length; i++) {
+            same(what + ", told " + i, got[i], due[i]);
+        }
+    }
+
     static void noSuch(String what, Call call) {
         same(what + " throws", thrownBy(call), 1);
     }
