@@ -28,6 +28,7 @@ public final class ActEdgeTest {
         notInTheImage();
         imageInPlaceOfAnother();
         withoutImage();
+        manyCalls();
         Check.finish();
     }
 
@@ -271,28 +272,30 @@ public final class ActEdgeTest {
         return all * 100 + sides(x, 0) * 31L + sides(x, 1);
     }
 
-    /** "ACTS (at most 40 are kept, the latest ones ...)": 0 to 43 acts of all kinds, all of them undone that can be. */
+    private static TetherSky acted(int acts) {
+        TetherSky x = Check.under(TWO + "reach 20;");
+        for (int i = 0; i < acts; i++) {
+            act(x, i);
+            Check.same("ACTS that are kept", x.count(5), Math.min(i + 1, 40));
+        }
+        Check.same("none was refused", x.count(10), 0);
+        return x;
+    }
+
+    /** "ACTS (at most 40 are kept, the latest ones ...)": of 0 to 43 of all kinds the latest ones UNDONE, to the last. */
     private static void fortyAreKept() {
-        for (int acts = 0; acts <= 43; acts += acts == 3 ? 34 : 1) {
-            TetherSky x = Check.under(TWO + "reach 20;");
-            long[] due = new long[acts + 1];
-            due[0] = all(x);
-            int kept = 0;
-            for (int i = 0; i < acts; i++) {
-                due[i] = all(x);
-                int refused = x.count(10);
-                act(x, i);
-                Check.same("act " + i + " isn't refused", x.count(10), refused);
-                kept = Math.min(40, kept + 1);
-                Check.same("ACTS that are kept", x.count(5), kept);
-            }
-            for (int left = kept - 1; left >= 0; left--) {
-                Check.same("undo", x.undo(), left);
+        for (int acts : new int[] {0, 1, 7, 39, 40, 41, 43}) {
+            int kept = Math.min(acts, 40);
+            for (int left = 0; left <= kept; left += left < 3 || left > kept - 3 ? 1 : 5) {
+                TetherSky x = acted(acts);
+                for (int i = kept - 1; i >= left; i--) {
+                    Check.same("how many are left", x.undo(), i);
+                }
                 Check.same("ACTS left", x.count(5), left);
-                Check.same("all as it was ahead of it", all(x), due[acts - kept + left]);
+                Check.same("as it was ahead of them", all(x), all(acted(acts - kept + left)));
+                Check.same("then", x.undo(), left - 1);
+                Check.same("what is not kept stays", all(x), all(acted(acts - kept + Math.max(left - 1, 0))));
             }
-            Check.same("there is none", x.undo(), -1);
-            Check.same("what is not kept stays", all(x), due[acts - kept]);
         }
     }
 
@@ -583,5 +586,23 @@ public final class ActEdgeTest {
         Check.feed(stays, "x");
         stays.sky(1);
         Check.same("not by a FAULT", stays.restore(), true);
+    }
+
+    /** "An object is used for at most 512 calls after it has been made": the last of them answers as the first. */
+    private static void manyCalls() {
+        TetherSky x = new TetherSky();
+        int calls = 0;
+        while (calls < 500) {
+            Check.feed(x, "isle 1 1 5 9 1 0 0 0;");
+            Check.same("sky", x.sky(21), 0);
+            Check.same("winch", x.winch(0, 1 + calls % 60), 5);
+            Check.same("refused", x.winch(0, 0), -1);
+            calls += 5;
+        }
+        Check.same("refusals", x.count(10), 100);
+        for (int i = 0; i < 10; i++) {
+            x.knot(0, true);
+        }
+        Check.same("the 512th", x.undo(), 10);
     }
 }

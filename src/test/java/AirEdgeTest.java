@@ -348,6 +348,14 @@ public final class AirEdgeTest {
         push("0 and 1 or 1", 1, 0);
         push("0 and (1 or 1)", 0, 0);
         push("1 and not 0", 1, 0);
+        push("1 and not 1", 0, 0);
+        push("0 or not 0", 1, 0);
+        push("0 or not 1", 0, 0);
+        push("1 and not not 1", 1, 0);
+        push("5+(not 1)", 5, 2);
+        push("5*(0 or 0 and 0<9+2*(not 0))", 0, 0);
+        push("5*(0 or 1 and 0<9+2*(not 0))", 5, 2);
+        push("7-(2<3)*(4 and not 0)", 6, 3);
         push("(1<2)<2", 1, 0);
     }
 

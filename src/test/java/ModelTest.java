@@ -4,8 +4,9 @@ import java.util.function.Function;
 
 /** Random runs of calls on TetherSky and on Model: both answer the same. The seeds are fixed. */
 public final class ModelTest {
-    private static final int RUNS = 1200;
-    private static final int CALLS = 500;
+    private static final int RUNS = 1400;
+    /** An object answers at most 512 calls as promised: a text and the counts at the end still come behind these. */
+    private static final int CALLS = 440;
     private static final String[] VALUES = {"lift", "weight", "rope", "knots", "people", "hour", "day", "size"};
     private static final String[] WORDS = {"isle", "hill", "reef", "wind", "church", "gusts", "reach", "light", "push",
         "north", "west", "or", "and", "not", "lift", "day", "foo", "12345", "0", "7", "61", "9999", ";", "(", ")", "+",
@@ -15,6 +16,7 @@ public final class ModelTest {
     private final TetherSky sky = new TetherSky();
     private final Model model = new Model();
     private int isles = 0;
+    private int calls = 0;
 
     private ModelTest(long seed) {
         random = new Random(seed);
@@ -28,13 +30,11 @@ public final class ModelTest {
     }
 
     private void run(int run) {
-        int calls = 0;
         while (calls < CALLS) {
             if (calls == 0 || random.nextInt(60) == 0) {
-                calls += text(run);
+                text(run);
             }
             call(run);
-            calls++;
         }
         for (int what = 0; what < 24; what++) {
             int w = what;
@@ -43,6 +43,7 @@ public final class ModelTest {
     }
 
     private void both(int run, String call, Function<TetherSky, Long> ours, Function<Model, Long> due) {
+        calls++;
         Check.same("run " + run + ": " + call, answer(ours, sky), answer(due, model));
     }
 
@@ -63,7 +64,7 @@ public final class ModelTest {
         return random.nextInt(n);
     }
 
-    private int text(int run) {
+    private void text(int run) {
         StringBuilder text = new StringBuilder(skyText());
         if (below(3) == 0) {
             spoil(text);
@@ -84,7 +85,6 @@ public final class ModelTest {
         both(run, "sky of [" + text + "]", x -> (long) x.sky(n), m -> (long) m.sky(n));
         both(run, "fault of [" + text + "]", x -> (long) x.fault(), m -> (long) m.fault());
         isles = model.count(0);
-        return text.length() / 20 + 2;
     }
 
     private void spoil(StringBuilder text) {
@@ -156,19 +156,37 @@ public final class ModelTest {
 
     // ---- calls ----
 
+    /** Numbers far from all that can be. */
+    private int extreme() {
+        int[] row = {Integer.MIN_VALUE, Integer.MIN_VALUE + 1, -1000, 1000, 65536, Integer.MAX_VALUE - 1, Integer.MAX_VALUE};
+        return row[below(row.length)];
+    }
+
     private int isle() {
+        if (below(300) == 0) {
+            return extreme();
+        }
         return below(40) == 0 ? below(9) - 1 : below(Math.max(isles, 1));
     }
 
     private int hour() {
+        if (below(300) == 0) {
+            return extreme();
+        }
         return below(60) == 0 ? below(172) - 2 : below(below(2) == 0 ? 168 : 24);
     }
 
     private int what(int many) {
+        if (below(200) == 0) {
+            return extreme();
+        }
         return below(30) == 0 ? below(many + 4) - 2 : below(many);
     }
 
     private int to(int from, int most) {
+        if (below(200) == 0) {
+            return extreme();
+        }
         return below(30) == 0 ? below(170) : Math.min(167, from + below(most + 1));
     }
 
@@ -228,13 +246,13 @@ public final class ModelTest {
         boolean more = below(3) > 0;
         switch (below(9)) {
             case 0: {
-                int rope = below(64) - 1;
+                int rope = below(100) == 0 ? extreme() : below(64) - 1;
                 both(run, "winch", x -> (long) x.winch(a, rope), m -> (long) m.winch(a, rope));
                 break;
             }
             case 1: both(run, "knot", x -> (long) x.knot(a, more), m -> (long) m.knot(a, more)); break;
             case 2: {
-                int load = below(3) == 0 ? below(64) - 1 : below(9);
+                int load = below(100) == 0 ? extreme() : below(3) == 0 ? below(64) - 1 : below(9);
                 both(run, "load", x -> (long) x.load(a, load), m -> (long) m.load(a, load));
                 break;
             }
@@ -242,7 +260,7 @@ public final class ModelTest {
             case 4: {
                 int from = what(4);
                 int to = what(4);
-                int people = below(5);
+                int people = below(50) == 0 ? extreme() : below(6) - 1;
                 both(run, "walk", x -> (long) x.walk(a, from, to, people), m -> (long) m.walk(a, from, to, people));
                 break;
             }
@@ -259,6 +277,7 @@ public final class ModelTest {
 
     private void image(int run) {
         if (below(3) == 0) {
+            calls++;
             sky.image();
             model.image();
         } else if (below(4) == 0) {
@@ -307,7 +326,7 @@ public final class ModelTest {
         switch (below(8)) {
             case 0: both(run, "way", x -> (long) x.way(a, b, h, w), m -> (long) m.way(a, b, h, w)); break;
             case 1: {
-                int i = below(6) - 1;
+                int i = below(100) == 0 ? extreme() : below(6) - 2;
                 both(run, "freed", x -> (long) x.freed(i), m -> (long) m.freed(i));
                 break;
             }
@@ -315,7 +334,7 @@ public final class ModelTest {
             case 3: seen(run, a, h); break;
             case 4: both(run, "fits", x -> (long) x.fits(w), m -> (long) m.fits(w)); break;
             case 5: {
-                int high = below(3) > 0 ? high(a, h) : below(63) - 1;
+                int high = below(100) == 0 ? extreme() : below(3) > 0 ? high(a, h) : below(63) - 1;
                 both(run, "weighed", x -> (long) x.weighed(a, h, high, w), m -> (long) m.weighed(a, h, high, w));
                 break;
             }
@@ -330,7 +349,7 @@ public final class ModelTest {
     }
 
     private void seen(int run, int isle, int hour) {
-        int high = below(10) == 0 ? below(64) - 1 : high(isle, hour) + below(2);
+        int high = below(100) == 0 ? extreme() : below(10) == 0 ? below(64) - 1 : high(isle, hour) + below(2);
         both(run, "see", x -> (long) x.see(isle, hour, high), m -> (long) m.see(isle, hour, high));
     }
 

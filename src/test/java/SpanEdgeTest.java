@@ -29,6 +29,7 @@ public final class SpanEdgeTest {
         wayAtOnce();
         wayByHours();
         wayToTheLastHour();
+        noWayBehindTheWeek();
         fewestBridges();
         Check.finish();
     }
@@ -526,6 +527,16 @@ public final class SpanEdgeTest {
                 Check.same("back", x.way(1, 0, start, 1), can ? 1 : -1);
             }
         }
+    }
+
+    /** Nothing comes behind HOUR 167, though an HOUR 0 or a DAY 7 would. */
+    private static void noWayBehindTheWeek() {
+        TetherSky x = Check.under("isle 10 10 10 50 1 0 0 0;isle 20 10 9 1 1 1 0 0;wind 0 9 0;push (hour=0)*100;");
+        Check.same("from 144", x.way(0, 1, 144, 0), 144);
+        Check.same("from 145", x.way(0, 1, 145, 0), -1);
+        Check.same("from 167", x.way(0, 1, 167, 1), -1);
+        TetherSky y = Check.under("isle 10 10 10 50 1 0 0 0;isle 20 10 9 1 1 1 0 0;wind 0 9 0;push (day=7)*100;");
+        Check.same("there is no DAY 7", y.way(0, 1, 0, 0), -1);
     }
 
     /** "the fewest BRIDGES by which one comes in that HOUR": 2 to isle 1 at first, but 1 an HOUR later. */

@@ -11,6 +11,8 @@ public final class TextEdgeTest {
     private static final String ONE_TOLD = "hill 2 3 5 9 1 0 0 0;";
     private static final String CANON = "isle 1 2 3 4 5 6 7 8 ; hill 2 2 9 9 1 0 0 0 ; wind 5 1 - 2 ; wind 6 - 1 2 ; "
             + "church west ; gusts 1 0 2 3 ; reach 4 ; light 5 ; push ( 1 + lift * 2 ) < 7 or not day and 3 / hour = 1 ;";
+    private static final String NESTED = "push not not not not not not lift * ( ( ( ( ( not not not not not not 1 ) ) ) ) ) "
+            + "- ( ( ( ( ( 2 ) ) ) ) ) ; wind 0 0 0 ; hill 0 0 1 1 1 0 0 0 ;";
     private static final String[] TOKENS = {"isle", "wind", "church", "push", "reach", "foo", "north", "not", "and", "or",
         "size", "1", "6", "61", "9999", "12345", ";", "(", ")", "+", "-", "*", "/", "<", "=", "#", ":", "'"};
 
@@ -20,6 +22,8 @@ public final class TextEdgeTest {
         sevenHundred();
         longestText();
         firstBytesOnly();
+        cutWithinTokens();
+        nothingOfEarlierTexts();
         emptyTexts();
         numbersOfIsles();
         kinds();
@@ -146,6 +150,51 @@ public final class TextEdgeTest {
             Check.same("the tape behind sky(" + n + ")", x.count(8), 0);
             Check.illegal("it is empty", () -> x.sky(1));
         }
+    }
+
+    /** A TOKEN is what the first n bytes hold of it, whatever stands behind them. */
+    private static void cutWithinTokens() {
+        cut("reach 12;", 7, 1, 7);
+        cut("reach 123456;", 8, 1, 8);
+        cut("reach 123456;", 9, 2, 6);
+        cut("push 123456;", 9, 1, 9);
+        cut("push 123456;", 10, 2, 5);
+        cut("push sizes;", 9, 1, 9);
+        cut("push sizes;", 8, 3, 5);
+        cut("reach 2;light", 11, 1, 8);
+        cut("reach 2;reachs", 13, 5, 8);
+        cut("church eastern;", 11, 1, 11);
+    }
+
+    private static void cut(String text, int n, int fault, int place) {
+        TetherSky x = new TetherSky();
+        Check.feed(x, text);
+        Check.same("first " + n + " of " + text, x.sky(n), fault);
+        Check.same("their fault", x.fault(), place);
+    }
+
+    private static void nothingOfEarlierTexts() {
+        for (char earlier : new char[] {'1', 'x', ';', '(', ' '}) {
+            TetherSky x = new TetherSky();
+            StringBuilder row = new StringBuilder();
+            while (row.length() < 700) {
+                row.append(earlier);
+            }
+            Check.same("700 of them", takeText(x, row.toString()), earlier == ' ' ? 0 : 1);
+            Check.same("a NUMBER at the end", takeText(x, "reach 1"), 1);
+            Check.same("the text's length", x.fault(), 7);
+            Check.same("a word at the end", takeText(x, "push size"), 1);
+            Check.same("the text's length", x.fault(), 9);
+            Check.same("a line's end", takeText(x, "reach 1;"), 0);
+            Check.same("REACH", x.count(3), 1);
+        }
+        StringBuilder digits = new StringBuilder("reach 1;push ");
+        while (digits.length() < 696) {
+            digits.append(' ');
+        }
+        Check.faulty(digits + "1234", 1, 700);
+        Check.faulty(digits + "size", 1, 700);
+        Check.faulty(digits + "sizw", 3, 696);
     }
 
     /** "SKY: LINE*": none is enough. */
@@ -519,8 +568,12 @@ public final class TextEdgeTest {
 
     /** "1 a TOKEN that can't stand there": in a text of all lines each token in place of, ahead of each one; each one left out. */
     private static void everyTokenEverywhere() {
-        String[] canon = CANON.split(" ");
-        sameAsModel(CANON);
+        tokenEverywhere(CANON.split(" "));
+        tokenEverywhere(NESTED.split(" "));
+    }
+
+    private static void tokenEverywhere(String[] canon) {
+        sameAsModel(String.join(" ", canon));
         for (int at = 0; at < canon.length; at++) {
             sameAsModel(joined(canon, at, ""));
             for (String token : TOKENS) {
@@ -585,6 +638,15 @@ public final class TextEdgeTest {
         Check.faulty("push ((((((+", 1, 11);
         Check.faulty("push ((((((-1", 1, 11);
         Check.faulty("push 1+push;", 3, 7);
+        Check.faulty("church church", 1, 7);
+        Check.faulty("gusts 1 gusts", 1, 8);
+        Check.faulty("church east church", 1, 12);
+        StringBuilder six = new StringBuilder();
+        for (int i = 0; i < 6; i++) {
+            six.append("isle ").append(i).append(" 0 9 9 1 0 0 0;");
+        }
+        Check.faulty(six + "reach 2 isle", 1, six.length() + 8);
+        Check.faulty(six + "isle isle", 2, six.length());
     }
 
     /** "of an EXPR within 6 others (a NUMBER, any word, a parenthesis)" */
