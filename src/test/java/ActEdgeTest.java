@@ -17,6 +17,7 @@ public final class ActEdgeTest {
         refusedOnesDropNone();
         lastOneFirst();
         eachKindUndone();
+        sixUndone();
         undoIsNoAct();
         noneToUndo();
         imageOfEach();
@@ -360,6 +361,29 @@ public final class ActEdgeTest {
         Check.same("a KNOT less is UNDONE", x.isle(1, 9), 1);
         x.undo();
         Check.sameRow("each kind is UNDONE", Whole.of(x), due);
+    }
+
+    /** Each of six ISLES throws a GOAT to each other one, and has it again. */
+    private static void sixUndone() {
+        StringBuilder text = new StringBuilder();
+        for (int isle = 0; isle < 6; isle++) {
+            text.append("isle ").append(2 * isle).append(" 1 9 50 6 8 ").append(isle).append(" 5;");
+        }
+        for (int from = 0; from < 6; from++) {
+            TetherSky x = Check.under(text.toString());
+            x.walk(from, 3, 0, 2);
+            for (int to = 0; to < 6; to++) {
+                Check.same(from + " to " + to, x.goat(from, to, 0), from != to);
+                Check.same("undo", x.undo(), from != to ? 1 : 0);
+                if (from == to) {
+                    x.walk(from, 3, 0, 2);
+                }
+                for (int isle = 0; isle < 6; isle++) {
+                    Check.same("GOATS of " + isle, x.isle(isle, 8), 5);
+                    Check.same("SIDES of " + isle, sides(x, isle), isle == from ? 4220 : 2222);
+                }
+            }
+        }
     }
 
     private static void undoIsNoAct() {

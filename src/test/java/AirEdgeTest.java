@@ -24,6 +24,7 @@ public final class AirEdgeTest {
         shades();
         bridges();
         rains();
+        rainOfSix();
         betweenNow();
         leanings();
         churchHours();
@@ -456,6 +457,24 @@ public final class AirEdgeTest {
         Check.same("the rope as it is now", last.rain(2, 0), 1);
         TetherSky strong = Check.under("isle 10 10 20 99 1 0 0 0;isle 19 10 9 1 1 1 0 0;wind 5 8 0;gusts 0 0 0 1;");
         Check.same("8 further by a push of 50", strong.rain(1, 5), 0);
+    }
+
+    /** Of six ISLES each one below the five others, or below those of them that are two higher. */
+    private static void rainOfSix() {
+        for (int low = 0; low < 6; low++) {
+            StringBuilder text = new StringBuilder();
+            for (int i = 0; i < 6; i++) {
+                text.append("isle ").append(10 + i).append(" 10 ").append(i == low ? 9 : 30 - 2 * i).append(" 9 5 0 0 0;");
+            }
+            TetherSky x = Check.under(text.toString());
+            int lowest = low == 5 ? 4 : 5;
+            Check.same("RAIN from the lowest of five", x.rain(low, 0), lowest);
+            Check.same("RAIN of the highest", x.rain(low == 0 ? 1 : 0, 0), -1);
+            Check.same("RAIN of the next one", x.rain(low <= 1 ? 2 : 1, 0), low == 0 ? 1 : 0);
+            for (int i = 0; i < 6; i++) {
+                Check.same("in THE SHADE of " + i, i != low && x.between(low, i == low ? (i + 1) % 6 : i, 0, 2), i != low);
+            }
+        }
     }
 
     /** Both by their ROPES as they are now, and without a gust. */

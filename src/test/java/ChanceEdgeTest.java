@@ -9,6 +9,7 @@ public final class ChanceEdgeTest {
 
     public static void main(String[] args) {
         twentyMoreEach();
+        hundredAtMost();
         ofReefsHalf();
         belowNothing();
         withoutAnything();
@@ -23,6 +24,7 @@ public final class ChanceEdgeTest {
         debtsSetOff();
         debtsToTheLowest();
         owedByAll();
+        debtsOfSix();
         weeks();
         sixtyAtMost();
         behindItsDay();
@@ -76,6 +78,15 @@ public final class ChanceEdgeTest {
                 calm("ahead of the wind", x, 0, 4, 1, 1);
             }
         }
+    }
+
+    /** 55 by 8 by 100 is 48 far, by 101 it were 49: by 100 both are 7 high and 2 apart, by 90 they are 3 apart. */
+    private static void hundredAtMost() {
+        TetherSky x = Check.under("isle 20 10 55 99 1 0 0 0;isle 13 10 60 99 1 0 0 0;wind 0 8 0;push 90;gusts 1 1 1 1;");
+        gust("by 90, 100, 100, 100", x, 0, 3, 4);
+        TetherSky full = Check.under("isle 20 10 55 99 1 0 0 0;isle 13 10 60 99 1 0 0 0;wind 0 8 0;push 101;gusts 1 1 1 1;");
+        gust("by 100 each", full, 0, 4, 4);
+        Check.same("without a gust", full.knock(0, 0, 1), 1);
     }
 
     /** "of reefs half of it, cut down, then" */
@@ -319,6 +330,36 @@ public final class ChanceEdgeTest {
         Check.same("1 of 3 less 2, the other of 5", y.rich(0, 4), 3);
         Check.same("3 and 3", y.rich(0, 2), 0);
         Check.same("what is set off is no wealth", y.rich(0, 5), 3);
+    }
+
+    /** Of six ISLES one below the five others, which are below none, or each but the highest below the next higher one. */
+    private static void debtsOfSix() {
+        for (int low = 0; low < 6; low++) {
+            StringBuilder one = new StringBuilder();
+            StringBuilder row = new StringBuilder();
+            for (int i = 0; i < 6; i++) {
+                one.append("isle ").append(10 + i).append(" 10 ").append(i == low ? 9 : 30).append(" 9 5 0 0 0;");
+                row.append("isle ").append(10 + i).append(" 10 ").append(10 + 2 * ((i + low) % 6)).append(" 9 5 0 0 0;");
+            }
+            TetherSky x = Check.under(one.toString());
+            TetherSky y = Check.under(row.toString());
+            int least = low == 0 ? 1 : 0;
+            Check.same("the least of like ones is owed", x.rich(0, 9), least);
+            Check.same("each is owed by one: the least", y.rich(0, 9), low == 0 ? 1 : 0);
+            for (int i = 0; i < 6; i++) {
+                for (int k = 0; k < 6; k++) {
+                    if (i != k) {
+                        Check.same(i + " owes " + k, x.debt(i, k, 0, 9), i == low && k == least ? 10 : 0);
+                        boolean next = (i + low) % 6 + 1 == (k + low) % 6;
+                        Check.same(i + " owes " + k + " in a row", y.debt(i, k, 0, 9), next ? 10 : 0);
+                    }
+                }
+                Check.same("VIEW of " + i, x.view(i, 5, 0), i == low ? 0 : 1);
+                Check.same("VIEW of " + i + " in a row", y.view(i, 5, 0), (i + low) % 6);
+                Check.same("best of " + i + " in a row", y.view(i, 5, 1) * 10 + y.view(i, 5, 2),
+                        (i + low) % 6 == 5 ? 5 : 10 * (21 - 10 - 2 * ((i + low) % 6)) + 5);
+            }
+        }
     }
 
     // ---- weeks ----

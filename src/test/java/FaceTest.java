@@ -4,21 +4,51 @@ import java.lang.reflect.Method;
 import java.lang.reflect.Modifier;
 import java.util.Arrays;
 import java.util.HashSet;
+import java.util.NoSuchElementException;
 import java.util.Set;
 import java.util.TreeSet;
 
 /** The face is the document's, and nothing else of the class can be seen (LANGUAGE.md, rule 1). */
 public final class FaceTest {
+    /** NoSuch is NoSuchElementException, Illegal IllegalArgumentException. */
     private static final String[] FACE = {
-        "int feed(int,int,int,int,int)", "int sky(int)", "int fault()", "int count(int)", "int isle(int,int)",
-        "int wind(int,int)", "int where(int,int,int)", "boolean between(int,int,int,int)", "int rain(int,int)",
-        "int winch(int,int)", "int knot(int,boolean)", "int load(int,int)", "boolean goat(int,int,int)",
-        "int walk(int,int,int,int)", "int undo()", "int knock(int,int,int)", "int shade(int,int,int)",
-        "int wet(int,int,int)", "int winds(int,int,int,int)", "int least(int,int,int,boolean)", "int rope(int)",
-        "int way(int,int,int,int)", "int cross(int,boolean)", "int uncross()", "int freed(int)",
-        "int tangle(int,int)", "int see(int,int,int)", "int fits(int)", "int weighed(int,int,int,int)",
-        "int gust(int,int)", "long calm(int,int,int)", "int view(int,int,int)", "int debt(int,int,int,int)",
-        "int rich(int,int)", "int week(int,int)", "void image()", "boolean restore()",
+        "int feed(int,int,int,int,int)",
+        "int sky(int) throws Illegal",
+        "int fault()",
+        "int count(int) throws NoSuch",
+        "int isle(int,int) throws NoSuch",
+        "int wind(int,int) throws NoSuch",
+        "int where(int,int,int) throws NoSuch",
+        "boolean between(int,int,int,int) throws NoSuch, Illegal",
+        "int rain(int,int) throws NoSuch",
+        "int winch(int,int) throws NoSuch",
+        "int knot(int,boolean) throws NoSuch",
+        "int load(int,int) throws NoSuch",
+        "boolean goat(int,int,int) throws NoSuch",
+        "int walk(int,int,int,int) throws NoSuch",
+        "int undo()",
+        "int knock(int,int,int) throws NoSuch, Illegal",
+        "int shade(int,int,int) throws NoSuch, Illegal",
+        "int wet(int,int,int) throws NoSuch, Illegal",
+        "int winds(int,int,int,int) throws NoSuch, Illegal",
+        "int least(int,int,int,boolean) throws Illegal",
+        "int rope(int) throws NoSuch",
+        "int way(int,int,int,int) throws NoSuch",
+        "int cross(int,boolean)",
+        "int uncross()",
+        "int freed(int) throws NoSuch",
+        "int tangle(int,int) throws NoSuch",
+        "int see(int,int,int) throws NoSuch",
+        "int fits(int) throws NoSuch",
+        "int weighed(int,int,int,int) throws NoSuch",
+        "int gust(int,int) throws NoSuch",
+        "long calm(int,int,int) throws NoSuch, Illegal",
+        "int view(int,int,int) throws NoSuch",
+        "int debt(int,int,int,int) throws NoSuch, Illegal",
+        "int rich(int,int) throws Illegal",
+        "int week(int,int) throws NoSuch",
+        "void image()",
+        "boolean restore()",
     };
 
     public static void main(String[] args) {
@@ -78,6 +108,13 @@ public final class FaceTest {
         for (int i = 0; i < taken.length; i++) {
             text.append(i == 0 ? "" : ",").append(taken[i].getName());
         }
-        return text.append(')').toString();
+        text.append(')');
+        Class<?>[] thrown = method.getExceptionTypes();
+        for (int i = 0; i < thrown.length; i++) {
+            text.append(i == 0 ? " throws " : ", ");
+            text.append(thrown[i] == NoSuchElementException.class ? "NoSuch"
+                    : thrown[i] == IllegalArgumentException.class ? "Illegal" : thrown[i].getName());
+        }
+        return text.toString();
     }
 }

@@ -11,6 +11,8 @@ public final class SpanEdgeTest {
         shadesInSpans();
         shadeOfAny();
         wetMostOften();
+        noneButTheIsles();
+        noSeventh();
         turnsByHours();
         turnsInTheSouth();
         southNow();
@@ -142,6 +144,61 @@ public final class SpanEdgeTest {
         Check.same("of like ones the least", both.wet(0, 3, 9), 1);
         both.winch(1, 11);
         Check.same("by ropes now", both.wet(0, 3, 9), 2);
+    }
+
+    /** None but the ISLES of the text: not those of an earlier one, nor where ropes that were tried brought them. */
+    private static void noneButTheIsles() {
+        StringBuilder six = new StringBuilder();
+        for (int i = 0; i < 6; i++) {
+            six.append("isle ").append(10 + i).append(" 10 ").append(10 + 3 * (i / 2)).append(" 50 6 0 0 0;");
+        }
+        String[] fewer = {"isle 10 10 10 50 6 0 0 0;", "isle 10 10 1 1 6 1 0 0;", "isle 0 0 1 1 6 1 0 0;", "isle 0 0 1 9 6 0 0 0;"};
+        for (String first : fewer) {
+            for (int many = 1; many <= 4; many++) {
+                StringBuilder text = new StringBuilder(first);
+                for (int i = 1; i < many; i++) {
+                    text.append("isle ").append(20 + 10 * i).append(" 50 30 50 1 0 0 0;");
+                }
+                alone(Check.under(text.toString()), many);
+                TetherSky x = Check.under(six.toString());
+                Check.same("six knock", x.knock(0, 0, 1), 1);
+                Check.same("and are in THE SHADE", x.shade(0, 0, 0), 1);
+                Check.feed(x, text.toString());
+                Check.same("fewer", x.sky(text.length()), 0);
+                alone(x, many);
+                Check.same("ropes are tried", x.least(0, 0, 4, true), 0);
+                alone(x, many);
+            }
+        }
+    }
+
+    private static void noSeventh() {
+        StringBuilder text = new StringBuilder("isle 0 0 30 50 6 0 0 0;");
+        for (int i = 1; i < 6; i++) {
+            text.append("isle ").append(10 * i).append(" 50 30 50 1 0 0 0;");
+        }
+        TetherSky x = Check.under(text.toString());
+        Check.same("nobody is owed anything", x.rich(0, 9), -1);
+        Check.same("no debt", x.debt(5, 0, 0, 9), 0);
+        Check.same("none KNOCK", x.knock(0, 9, 0), -1);
+        Check.same("VIEW", x.view(0, 0, 0), 0);
+        Check.same("no RAIN", x.rain(5, 0), -1);
+    }
+
+    private static void alone(TetherSky x, int many) {
+        Check.same("ISLES", x.count(0), many);
+        Check.same("none KNOCK", x.knock(0, 9, 0), -1);
+        Check.same("no two", x.knock(0, 9, 1), -1);
+        Check.same("none by a gust", x.gust(0, 0), 0);
+        Check.same("nobody is owed anything", x.rich(0, 9), -1);
+        Check.same("none in a WEEK", many == 1 ? x.week(7, -1) : 0, 0);
+        for (int isle = 0; isle < many; isle++) {
+            Check.same("no RAIN", x.rain(isle, 0), -1);
+            Check.same("no SHADE", x.shade(isle, 0, 9), 0);
+            Check.same("never", x.wet(isle, 0, 9), -1);
+            Check.same("VIEW", x.view(isle, 0, 0), isle == 0 ? 0 : 1);
+        }
+        Check.same("the least winching", x.least(0, 9, 0, false), 0);
     }
 
     // ---- promise 20 ----

@@ -35,6 +35,7 @@ public final class TextEdgeTest {
         weights();
         reachAndLight();
         allAnew();
+        rulesAnew();
         statusStays();
         allIsGone();
         placesOfFaults();
@@ -409,6 +410,30 @@ public final class TextEdgeTest {
             Check.same("no KNOTS", x.isle(0, 9), 0);
             Check.same("push", x.where(0, 0, 3), 50);
             Check.noSuch("isle 1", () -> x.isle(1, 0));
+        }
+    }
+
+    /** A rule is read anew as well: nothing of a longer one told ahead is left, whatever stood at its end. */
+    private static void rulesAnew() {
+        String isle = "isle 1 1 5 90 1 0 0 0;push ";
+        String[] longer = {"not 5;", "not not 5;", "1+2;", "1*(2+3);", "1 and not 0;", "1 or not 1;", "7-(9<(not 3));", "lift/size;"};
+        for (String rule : longer) {
+            TetherSky x = new TetherSky();
+            for (int i = 0; i < 3; i++) {
+                Check.same("a longer rule", takeText(x, isle + rule), 0);
+            }
+            for (int i = 0; i < 3; i++) {
+                Check.same("a number", takeText(x, isle + "60;"), 0);
+                Check.same("PUSH behind " + rule, x.where(0, 0, 3), 60);
+            }
+            for (int i = 0; i < 3; i++) {
+                Check.same("two parts", takeText(x, isle + "60+4;"), 0);
+                Check.same("PUSH behind " + rule, x.where(0, 0, 3), 64);
+            }
+            for (int i = 0; i < 3; i++) {
+                Check.same("no rule", takeText(x, "isle 1 1 5 90 1 0 0 0;"), 0);
+                Check.same("PUSH without one", x.where(0, 0, 3), 50);
+            }
         }
     }
 
