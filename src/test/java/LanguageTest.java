@@ -1,4 +1,5 @@
 import java.io.IOException;
+import java.lang.reflect.Array;
 import java.lang.reflect.Field;
 import java.lang.reflect.Method;
 import java.lang.reflect.Modifier;
@@ -6,7 +7,9 @@ import java.nio.charset.StandardCharsets;
 import java.nio.file.Files;
 import java.nio.file.Path;
 import java.util.ArrayList;
+import java.util.IdentityHashMap;
 import java.util.List;
+import java.util.Map;
 import java.util.regex.Matcher;
 import java.util.regex.Pattern;
 
@@ -22,6 +25,8 @@ public final class LanguageTest {
         words(code);
         exceptions(code);
         methods(code);
+        makes(code);
+        room();
         List<Class<?>> classes = new ArrayList<>(List.of(TetherSky.class.getDeclaredClasses()));
         classes.add(TetherSky.class);
         Check.same("some twelve classes", classes.size() <= 12, true);
@@ -97,6 +102,70 @@ public final class LanguageTest {
                 Check.same("lines of " + lines[start].trim(), i - start + 1 <= 60, true);
                 start = -1;
             }
+        }
+    }
+
+    /** Rule 12, and "make rows in constructors and use them again": what isn't an exception is made with its object. */
+    private static void makes(String code) {
+        String rest = code.replaceAll("throw new \\w+", "throw").replaceAll("=\\s+new ", "= new ");
+        Matcher made = Pattern.compile("(?m)^.*\\bnew\\b.*$").matcher(rest);
+        while (made.find()) {
+            Check.same("made with its object: " + made.group().trim(),
+                    made.group().matches("( {4}| {8})(private )?(final )?[\\w\\[\\]]+ \\w+ = new .*;"), true);
+        }
+    }
+
+    /** All calls of a run live in one room: an object takes little of it when it is made, and no more behind calls. */
+    private static void room() {
+        TetherSky x = new TetherSky();
+        long[] made = roomOf(x);
+        Check.same("a thousand find room, of objects and arrays: " + made[0], made[0] <= 600, true);
+        Check.same("a thousand find room, of fields and elements: " + made[1], made[1] <= 7300, true);
+        String text = "isle 1 1 9 9 2 3 0 1;isle 2 2 9 9 2 3 0 1;push 9*(lift-2);";
+        for (int i = 0; i < 40; i++) {
+            Check.feed(x, text);
+            Check.same("sky behind calls", x.sky(i == 20 ? 3 : text.length()), i == 20 ? 1 : 0);
+            x.winch(0, 30);
+            x.image();
+            x.least(0, 5, 2, false);
+            x.cross(0, true);
+            x.see(0, 0, 1);
+            x.week(i, -1);
+            x.restore();
+        }
+        Check.sameRow("room behind calls", roomOf(x), made);
+    }
+
+    /** How many objects and arrays hang on an object, and how many fields and elements they have. */
+    private static long[] roomOf(Object whole) {
+        Map<Object, Boolean> seen = new IdentityHashMap<>();
+        List<Object> open = new ArrayList<>(List.of(whole));
+        seen.put(whole, true);
+        long parts = 0;
+        for (int i = 0; i < open.size(); i++) {
+            Object one = open.get(i);
+            if (one.getClass().isArray()) {
+                parts += Array.getLength(one);
+            }
+            for (Field field : one.getClass().isArray() ? new Field[0] : one.getClass().getDeclaredFields()) {
+                if (!Modifier.isStatic(field.getModifiers())) {
+                    parts++;
+                    Object held = held(field, one);
+                    if (held != null && !field.getType().isPrimitive() && seen.put(held, true) == null) {
+                        open.add(held);
+                    }
+                }
+            }
+        }
+        return new long[] {open.size(), parts};
+    }
+
+    private static Object held(Field field, Object of) {
+        try {
+            field.setAccessible(true);
+            return field.get(of);
+        } catch (IllegalAccessException e) {
+            throw new IllegalStateException(e);
         }
     }
 
